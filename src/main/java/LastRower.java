@@ -261,7 +261,7 @@ public final class LastRower {
     }
 
     public int best() {
-        // Nobody can be pinched any more once it is OVER.
+        // What is OVER needs nobody to end it.
         if (isOver()) {
             return NONE;
         }

@@ -33,6 +33,13 @@ public final class PromiseTest {
         due("letters kept of [" + text + "]", x.count(4), text.length());
     }
 
+    private static LastRower rowed(String text, int pinched, int beats) {
+        LastRower x = told(text);
+        x.pinches(pinched);
+        beats(x, beats);
+        return x;
+    }
+
     private static void beats(LastRower x, int n) {
         for (int i = 0; i < n; i++) {
             x.beat();
@@ -447,6 +454,13 @@ public final class PromiseTest {
         // One alone has the oars twice in each six BEATS: 133 by the 398th, 134 by the 402nd.
         due("ends() in 398", told("p1 1 0;p1 2 0;p1 3 0;w133;").ends(), 398);
         due("ends() beyond 400", told("p1 1 0;p1 2 0;p1 3 0;w134;").ends(), -9);
+        // 2 is pinched a BEAT late, so that one alone has the oars once in each three BEATS.
+        LastRower third = told("p1 1 0;p1 3 0;p1 3 0;w135;");
+        third.beat();
+        third.pinches(2);
+        due("ends() in 401", third.ends(), -9);
+        third.beat();
+        due("ends() in 400 again", third.ends(), 400);
         LastRower z = told("p9 30 0;w10;");
         z.pinches(0);
         beats(z, 2);
@@ -513,6 +527,7 @@ public final class PromiseTest {
         LastRower far = told("p9 19 0;p9 23 0;w10;");
         far.quarrels(0, 1);
         due("ring() beyond 400", far.ring(), -9);
+        due("ring() in 400", rowed("p4 4 0;p1 16 1;p1 25 0;w82;", 0, 4).ring(), 400);
     }
 
     private static void drift() {
@@ -530,6 +545,8 @@ public final class PromiseTest {
         y.pinches(0);
         beats(y, 2);
         due("drift() when OVER", y.drift(), -9);
+        due("drift() in 400", rowed("p6 17 1;p4 24 0;p7 30 0;p2 28 0;c4 5;w96;", 2, 2).drift(), 400);
+        due("drift() in 401", rowed("p9 23 0;p9 17 1;p1 9 0;c29 7;c4 2;w57;", 1, 1).drift(), -9);
     }
 
     private static void plan() {
@@ -569,6 +586,10 @@ public final class PromiseTest {
         due("plan(3, 7, 1)", weak.plan(3, 7, 1), -5);
         due("plan(3, 7, 2)", weak.plan(3, 7, 2), 0);
         due("plan of nobody", new LastRower().plan(1, 0, -1), -9);
+        LastRower far = rowed("p1 9 1;p1 11 1;c0 1;w31;", 1, 0);
+        due("plan(1, 0, -1) in 400", far.plan(1, 0, -1), 400);
+        due("plan(1, 0, 0) in 400", far.plan(1, 0, 0), -5);
+        due("plan(1, 0, -1) in 401", rowed("p1 1 1;p1 5 1;c0 0;c2 1;w82;", 0, 0).plan(1, 0, -1), -9);
     }
 
     private static void planIsRefused(LastRower x) {
@@ -593,7 +614,8 @@ public final class PromiseTest {
         due("best() NONE", told("p2 30 0;c0 2;").best(), -9);
         LastRower y = told("p1 30 0;p2 1 0;c0 1;w200;");
         due("best(), who is strong", y.best(), 1);
-        due("best() beyond 400", told("p1 1 0;p1 2 0;p1 3 0;w140;").best(), -9);
+        due("best() in 400", rowed("p1 9 1;p1 11 1;c0 1;w31;", 1, 0).best(), 0);
+        due("best() in 401", rowed("p1 1 1;p1 5 1;c0 0;c2 1;w82;", 0, 0).best(), -9);
     }
 
     private static void mute() {
