@@ -238,6 +238,11 @@ public final class LastRower {
         return lines[0];
     }
 
+    /** What asks of a PINCH now may think of no other than pinches() would do: of none when it is OVER. */
+    private int countPinchable() {
+        return isOver() ? 0 : told.passengers;
+    }
+
     private Moment copyWherePinched(int p) {
         Moment then = copyOfNow();
         then.speak(told, 1 << p);
@@ -261,13 +266,10 @@ public final class LastRower {
     }
 
     public int best() {
-        // What is OVER needs nobody to end it.
-        if (isOver()) {
-            return NONE;
-        }
         int bestPassenger = NONE;
         int soonest = HORIZON + 1;
-        for (int p = 0; p < told.passengers; p++) {
+        int pinchable = countPinchable();
+        for (int p = 0; p < pinchable; p++) {
             int beats = copyWherePinched(p).rowTillOver(told, soonest - 1);
             if (beats != NONE) {
                 soonest = beats;
@@ -313,7 +315,8 @@ public final class LastRower {
 
     public int who() {
         int bits = agreesWithSeen(copyOfNow()) ? NOBODY_BIT : 0;
-        for (int p = 0; p < told.passengers; p++) {
+        int pinchable = countPinchable();
+        for (int p = 0; p < pinchable; p++) {
             if (agreesWithSeen(copyWherePinched(p))) {
                 bits |= 1 << p;
             }

@@ -458,7 +458,7 @@ public final class ModelTest {
             int bits = 0;
             Now kept = now;
             for (int p = 0; p <= 6; p++) {
-                if (p < 6 && !has(p)) {
+                if (p < 6 && (!has(p) || over(kept))) {
                     continue;
                 }
                 now = kept.copy();

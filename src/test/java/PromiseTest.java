@@ -689,6 +689,24 @@ public final class PromiseTest {
         due("who() by what can't be", x.who(), 0);
         due("nothing is changed", x.now(5), 0);
         due("who() of nobody", new LastRower().who(), 64);
+        whoWhenOver();
+    }
+
+    private static void whoWhenOver() {
+        LastRower x = rowed("p9 30 0;p9 30 0;w10;", 0, 1);
+        due("who() just ahead of being OVER", x.who(), 67);
+        x.beat();
+        due("OVER", x.now(4), 1);
+        due("who() when OVER by nothing SEEN", x.who(), 64);
+        x.seen(60, 1);
+        due("who() when OVER by who has the oar", x.who(), 64);
+        x.seen(0, 2);
+        due("who() when OVER by who has none", x.who(), 0);
+        x.forget();
+        x.seen(0, 2);
+        due("who() when OVER by one who can't be PINCHED", x.who(), 0);
+        x.undo();
+        due("who() when it is not OVER again", x.who(), 2);
     }
 
     private static void odds() {
