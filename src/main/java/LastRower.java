@@ -711,10 +711,9 @@ public final class LastRower {
         void start(Ferry ferry) {
             beats = 0;
             where = 0;
-            oars = 0;
             Arrays.fill(silentSince, 0);
             Arrays.fill(wordsOf, 0);
-            nextDue = findNextDue(ferry);
+            speak(ferry, 0);
         }
 
         void copyFrom(Moment other) {
@@ -728,15 +727,18 @@ public final class LastRower {
             }
         }
 
+        /** Asks no other method: it is the last of plan()'s calls, which go as deep as LANGUAGE.md lets them. */
         void speak(Ferry ferry, int speakers) {
             oars = speakers;
-            for (int p = 0; p < MOST_PASSENGERS; p++) {
+            nextDue = NEVER;
+            for (int p = 0; p < ferry.passengers && p < MOST_PASSENGERS; p++) {
                 if ((speakers >> p & 1) != 0) {
                     silentSince[p] = beats;
                     wordsOf[p]++;
                 }
+                int due = silentSince[p] + ferry.keeps[p];
+                nextDue = due < nextDue ? due : nextDue;
             }
-            nextDue = findNextDue(ferry);
         }
 
         void row(Ferry ferry) {
@@ -767,14 +769,6 @@ public final class LastRower {
                 row(ferry);
             }
             return NONE;
-        }
-
-        private int findNextDue(Ferry ferry) {
-            int due = NEVER;
-            for (int p = 0; p < ferry.passengers && p < MOST_PASSENGERS; p++) {
-                due = Math.min(due, silentSince[p] + ferry.keeps[p]);
-            }
-            return due;
         }
 
         int whoIsDueAt(Ferry ferry, int time) {
